@@ -82,6 +82,9 @@ public final class ScanTest {
                 Kit.recoveryPacket(OTHER_SET, 0, R));
         scanned("file 2 of two", 1, MAIN, Kit.filePacket(SET, 2, A));
         scanned("checks of file 2 of two", 1, MAIN, Kit.checksPacket(SET, 2, Kit.bytes()));
+        byte[] asIfTold = Kit.bytes(A.length);
+        scanned("file 2 of two, its length behind main", 1, Kit.filePacket(SET, 2, A), MAIN, asIfTold);
+        scanned("checks of file 2 of two, its length behind main", 1, Kit.checksPacket(SET, 2, A), MAIN, asIfTold);
         scanned("file 255", 1, MAIN, Kit.filePacket(SET, 255, A), Kit.checksPacket(SET, 255, A));
         scanned("another length", 1, MAIN, Kit.filePacket(SET, 1, A));
         scanned("another number of slices", 1, MAIN, Kit.checksPacket(SET, 1, A));
@@ -139,7 +142,7 @@ public final class ScanTest {
     private static void longPackets() {
         byte[] body = new byte[300];
         System.arraycopy(Kit.mainPacket(2), 0, body, 100, Kit.mainPacket(2).length);
-        scanned("a long body", 1, Kit.packet(200, OTHER_SET, body), MAIN);
+        scanned("a long body", 2, Kit.packet(200, OTHER_SET, body), MAIN, Kit.filePacket(SET, 1, B));
         for (int n = 45; n < 125; n++) {
             scanned("a body of " + n, 1, Kit.packet(200, SET, new byte[n]), MAIN);
             byte[] inner = Kit.join(new byte[n - 30], Kit.mainPacket(2));
