@@ -11,15 +11,25 @@ final class Kit {
     static final int CHECKS = 73;
     static final int RECOVERY = 82;
 
+    /** Out of every range of the document, though some would be within one if they wrapped or lost bits. */
+    static final int[] FAR = {Integer.MIN_VALUE, Integer.MIN_VALUE + 1, Integer.MIN_VALUE + 8, -65536, -65535,
+        -256, -255, 1024, 65536, 65537, 1 << 24, Integer.MAX_VALUE - 1, Integer.MAX_VALUE};
+
     private static int wrong = 0;
+    private static String sentence = "";
 
     private Kit() {
+    }
+
+    /** The sentence of the document that the checks behind this are about; it is told with each wrong answer. */
+    static void says(String promise, String words) {
+        sentence = promise + ", '" + words + "': ";
     }
 
     static void due(String what, long got, long want) {
         if (got != want) {
             wrong++;
-            System.out.println(what + " answered " + got + ", due is " + want);
+            System.out.println(sentence + what + " answered " + got + ", due is " + want);
         }
     }
 
@@ -28,10 +38,17 @@ final class Kit {
     }
 
     static void due(String what, byte[] got, byte[] want) {
-        if (!Arrays.equals(got, want)) {
+        int i = Arrays.mismatch(got, want);
+        if (i >= 0) {
             wrong++;
-            System.out.println(what + " is " + Arrays.toString(got) + ", due is " + Arrays.toString(want));
+            System.out.println(sentence + what + " has " + got.length + " bytes, due are " + want.length
+                    + ", and place " + i + " is the first that differs: " + byteText(got, i)
+                    + ", due is " + byteText(want, i));
         }
+    }
+
+    private static String byteText(byte[] data, int i) {
+        return i < data.length ? Integer.toString(data[i] & 255) : "none";
     }
 
     static void finish() {
@@ -45,6 +62,10 @@ final class Kit {
         return wrong != 0;
     }
 
+    static long bit(boolean answer) {
+        return answer ? 1 : 0;
+    }
+
     static byte[] text(String s) {
         return s.getBytes(StandardCharsets.ISO_8859_1);
     }
@@ -55,6 +76,28 @@ final class Kit {
             result[i] = (byte) values[i];
         }
         return result;
+    }
+
+    /** So many bytes, other ones for another seed; all of 0 .. 255 come, 0 and 255 often. */
+    static byte[] some(int n, int seed) {
+        byte[] result = new byte[n];
+        for (int i = 0; i < n; i++) {
+            int v = (i + 1) * (2 * seed + 77) + (i * i >> 1) + 13 * seed;
+            result[i] = (byte) (v % 5 == 0 ? 0 : v % 7 == 0 ? 255 : v);
+        }
+        return result;
+    }
+
+    /** The bytes with byte i as v. */
+    static byte[] with(byte[] data, int i, int v) {
+        byte[] result = data.clone();
+        result[i] = (byte) v;
+        return result;
+    }
+
+    /** The bytes without n of them from place i on. */
+    static byte[] without(byte[] data, int i, int n) {
+        return join(Arrays.copyOf(data, i), Arrays.copyOfRange(data, i + n, data.length));
     }
 
     static byte[] join(byte[]... parts) {
@@ -121,7 +164,7 @@ final class Kit {
         return packet(RECOVERY, set, join(bytes(exponent), slice));
     }
 
-    /** The recovery slice of files (of their first 12 slices), by polynomials that are multiplied and divided the long way. */
+    /** The recovery slice of files (of their first 12 slices), by polynomials multiplied and divided the long way. */
     static byte[] recoverySlice(int exponent, byte[]... files) {
         int[] logs = {1, 2, 4, 7, 8, 11, 13, 14, 16, 19, 22, 23};
         int[] numbers = new int[4];
@@ -147,6 +190,20 @@ final class Kit {
         return result;
     }
 
+    /** The volume that protecting the three files must write. */
+    static byte[] volumeOf(int r, byte[]... files) {
+        byte[] body = mainBody(files[0].length, files[1].length, files[2].length);
+        byte[] set = setOf(body);
+        byte[] result = packet(MAIN, set, body);
+        for (int f = 0; f < files.length; f++) {
+            result = join(result, filePacket(set, f, files[f]), checksPacket(set, f, files[f]));
+        }
+        for (int e = 0; e < r; e++) {
+            result = join(result, recoveryPacket(set, e, recoverySlice(e, files)));
+        }
+        return result;
+    }
+
     static int product(int a, int b) {
         long wide = 0;
         for (int k = 0; k < 16; k++) {
@@ -160,6 +217,14 @@ final class Kit {
             }
         }
         return (int) wide;
+    }
+
+    static ParityVolume withFiles(byte[]... files) {
+        ParityVolume x = new ParityVolume();
+        for (int f = 0; f < files.length; f++) {
+            write(x, f, files[f]);
+        }
+        return x;
     }
 
     static void write(ParityVolume x, int f, byte[] content) {
@@ -177,17 +242,14 @@ final class Kit {
     static byte[] content(ParityVolume x, int f) {
         byte[] result = new byte[x.length(f)];
         for (int i = 0; i < result.length; i++) {
-            result[i] = (byte) x.at(f, i);
+            result[i] = asByte(x.at(f, i));
         }
         return result;
     }
 
-    static byte[] volume(ParityVolume x) {
-        byte[] result = new byte[x.volume()];
-        for (int i = 0; i < result.length; i++) {
-            result[i] = (byte) x.byteAt(i);
-        }
-        return result;
+    static byte asByte(int v) {
+        due("a byte is 0 .. 255", v >= 0 && v <= 255, true);
+        return (byte) v;
     }
 
     static void plant(ParityVolume x, int at, byte[] data) {

@@ -3,8 +3,10 @@ import java.util.Random;
 
 /** Runs of at most 512 calls, drawn from fixed seeds, each answer beside the model's. */
 public final class ModelTest {
-    private static final int RUNS = 1500;
+    private static final int RUNS = 2000;
     private static final int CALLS = 512;
+    /** More than asking and looking take at most, so that the last of them still have room. */
+    private static final int LAST = 100;
     private static final int[] EDGES = {-1, 256, 40, 41, Integer.MIN_VALUE, Integer.MAX_VALUE, 694, 3, 9};
 
     private static final int[] made = new int[13];
@@ -55,7 +57,7 @@ public final class ModelTest {
 
     private void go() {
         int style = random.nextInt(3);
-        while (room(60) && !Kit.failed()) {
+        while (room(LAST + 50) && !Kit.failed()) {
             int what = random.nextInt(24);
             if (what < 5) {
                 newFile();
@@ -74,6 +76,7 @@ public final class ModelTest {
         }
         ask();
         look();
+        Kit.due(run + "no more than 512 calls", calls <= CALLS, true);
     }
 
     private void newFile() {
@@ -164,7 +167,7 @@ public final class ModelTest {
             return;
         }
         int at = random.nextInt(3) > 0 ? random.nextInt(last + 1) / 35 * 35 : last;
-        for (int i = 0; i < p.length && room(20); i++) {
+        for (int i = 0; i < p.length && room(LAST); i++) {
             if (m.byteAt(at + i) != (p[i] & 255)) {
                 due("alter", x.alter(at + i, p[i] & 255), m.alter(at + i, p[i] & 255));
             }
