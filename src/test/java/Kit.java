@@ -24,6 +24,7 @@ final class Kit {
     /** The sentence of the document that the checks behind this are about; it is told with each wrong answer. */
     static void says(String promise, String words) {
         sentence = promise + ", '" + words + "': ";
+        due("the document's saying so", Texts.documentSays(words), true);
     }
 
     static void due(String what, long got, long want) {

@@ -316,7 +316,8 @@ public final class RepairTest {
     }
 
     private static void repairIsLostWithOneMore() {
-        Kit.says("Promise 13", "Nothing changes, when it answers .. LOST when fewer are taken than there are damaged");
+        Kit.says("Promise 13",
+                "Nothing changes, when it answers NOTHING; LOST when fewer are taken than there are damaged");
         for (int r = 0; r <= 6; r++) {
             for (int d : new int[] {r + 1, r + 2, 12}) {
                 State.stays(d + " damaged, " + r + " there", damagedTwelve(r, d), x -> x.repair(), LOST);
@@ -397,7 +398,7 @@ public final class RepairTest {
     }
 
     private static void repairIsLostBeforeWrong() {
-        Kit.says("Promise 13", "LOST when fewer are taken than there are damaged; WRONG when ..");
+        Kit.says("Promise 13", "LOST when fewer are taken than there are damaged; WRONG when a file");
         State.stays("LOST, though a sum is wrong", () -> {
             ParityVolume x = protectedFiles(1);
             Kit.plant(x, FILE_AT[0], Kit.filePacket(SET, 0, Kit.text("another of three slice")));
@@ -517,7 +518,8 @@ public final class RepairTest {
     /** The powers 0, 44 and 135 of the bases of slices 0, 1 and 3 depend on one another. */
     private static void dependentPowersAreLeftOut() {
         Kit.says("Terms",
-                "each is TAKEN unless its powers .. are a sum of multiples of those of the ones that were taken");
+                "each is TAKEN unless its powers of the damaged slices' bases are a sum of multiples of those of the"
+                + " ones that were taken");
         byte[] file = Kit.text("four slices, just as many bytes!");
         byte[] set = Kit.setOf(Kit.mainBody(32, 0, 0));
         ParityVolume x = Kit.withFiles(file);
